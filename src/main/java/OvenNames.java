@@ -333,7 +333,9 @@ public final class OvenNames {
         history.begin(now);
         reports.clear();
         search.clearLying();
-        Arrays.fill(isKept, false);
+        for (int box = 0; box < BOXES; box++) {
+            isKept[box] = false;
+        }
     }
 
     private void putOnTape(int four) {
@@ -466,7 +468,6 @@ public final class OvenNames {
     private static final class Village {
         int souls;
         int deeds;
-        int feudCount;
         int heat;
         int draw;
         final int[] needs = new int[SOULS_MOST];
@@ -478,7 +479,6 @@ public final class OvenNames {
         void clear() {
             souls = 0;
             deeds = 0;
-            feudCount = 0;
             heat = 0;
             draw = 0;
             Arrays.fill(needs, 0);
@@ -490,7 +490,6 @@ public final class OvenNames {
         void take(Village from) {
             souls = from.souls;
             deeds = from.deeds;
-            feudCount = from.feudCount;
             heat = from.heat;
             draw = from.draw;
             System.arraycopy(from.needs, 0, needs, 0, SOULS_MOST);
@@ -611,6 +610,7 @@ public final class OvenNames {
         private final long[] deedNames = new long[DEEDS_MOST];
         private final long[] soulNames = new long[SOULS_MOST];
         private final FormulaReader formulas;
+        private int feudCount;
         private boolean isLoafTold;
         private boolean isHeatTold;
         private boolean isDrawTold;
@@ -624,6 +624,7 @@ public final class OvenNames {
             draft.clear();
             faultFound = 0;
             faultPlace = NONE;
+            feudCount = 0;
             isLoafTold = false;
             isHeatTold = false;
             isDrawTold = false;
@@ -668,7 +669,7 @@ public final class OvenNames {
         }
 
         private void readFeud() {
-            if (!passFirst(draft.feudCount < FEUDS_MOST)) {
+            if (!passFirst(feudCount < FEUDS_MOST)) {
                 return;
             }
             int one = readSoulName();
@@ -686,7 +687,7 @@ public final class OvenNames {
             }
             draft.feuds[one] |= 1 << other;
             draft.feuds[other] |= 1 << one;
-            draft.feudCount++;
+            feudCount++;
             scanner.advance();
         }
 

@@ -234,7 +234,11 @@ public final class PromisesTest {
         String ten = FIVE + "feud a with b;feud a with c;feud a with d;feud a with e;feud b with c;feud b with d;"
                 + "feud b with e;feud c with d;feud c with e;feud d with e;";
         fault(ten + "feud a with b;", 2, ten.length());
-        due.is("4: ten feuds", Due.village(ten).about(2), 10);
+        OvenNames x = Due.village(ten);
+        due.is("4: ten feuds", x.about(2), 10);
+        Due.put(x, ten);
+        due.is("4: ten feuds once more", x.village(), 5);
+        due.is("4: ten feuds once more", x.about(2), 10);
         fault("heat 10;", 4, 5);
         fault("heat a;", 2, 5);
         fault("heat 1;heat 1;", 2, 7);
@@ -283,6 +287,19 @@ public final class PromisesTest {
         fault("loaf (" + ones.substring(5) + ");", 2, 64);
         due.is("43: thirty units", Due.village(ones + ";soul a needs 1;").about(12), 30);
         due.is("2: thirty ones", Due.village(ones + ";soul a needs 1;").soul(0, 5), 30);
+        // nothing of a text with a FAULT goes into the next one
+        OvenNames x = new OvenNames();
+        for (String bad : new String[] {"loaf (((((((1+2", "loaf not not not not not not not 1 or", "loaf 1 or 2<("}) {
+            Due.put(x, bad);
+            due.is("4: village() of " + bad, x.village(), -1);
+            Due.put(x, "soul a needs 1;loaf (((((((3)))))))*2 or not not not not not not not 0;");
+            due.is("4: village() behind " + bad, x.village(), 1);
+            due.is("4: loaf behind " + bad, x.soul(0, 5), 1);
+            due.is("4: units behind " + bad, x.about(12), 10);
+            Due.put(x, "soul a needs 1;loaf 3);");
+            due.is("4: bracket behind " + bad, x.village(), -1);
+            due.is("5: bracket behind " + bad, x.fault(1), 21);
+        }
     }
 
     private static void limitsThatStillStand() {
@@ -464,6 +481,13 @@ public final class PromisesTest {
         }
         due.is("10: week 401", y.about(5), 401);
         due.is("10: fed 401 times", y.soul(0, 7), 401);
+        for (int i = 401; i < 999; i++) {
+            y.bread();
+        }
+        due.is("10: week 999", y.about(5), 999);
+        due.is("10: behind 999", y.bread(), -1);
+        due.is("10: behind 999 nothing is done", y.about(5), 999);
+        due.is("10: behind 999 nothing is done", y.soul(0, 7), 999);
     }
 
     private static void undoAndRedo() {
@@ -755,6 +779,11 @@ public final class PromisesTest {
         due.is("27: 8", x.wants(0, 8, 1), 7);
         due.is("27: 9", x.wants(0, 9, 0), -1);
         due.is("27: 9", x.wants(0, 9, 1), -1);
+        OvenNames y = Due.village("deed a;deed b;deed c;deed d;soul s needs 1;loaf a*2+b*2+c*4+d*4;");
+        due.is("27: one of more is fewer", y.wants(0, 4, 0), 1);
+        due.is("27: one of more is fewer", y.wants(0, 4, 1), 4);
+        due.is("27: two of more are fewer", y.wants(0, 8, 1), 12);
+        due.is("27: the least of like ones", y.wants(0, 6, 1), 5);
         due.is("27: what 2", x.wants(0, 3, 2), -1);
         due.is("27: what -1", x.wants(0, 3, -1), -1);
         due.is("27: soul 1", x.wants(1, 3, 0), -1);
@@ -817,6 +846,12 @@ public final class PromisesTest {
         odds(z, 2, 6, 1, 1);
         odds(z, 2, 7, 19, 100);
         odds(z, 2, 8, 1, 100);
+        OvenNames w = Due.village("soul s needs 1 stays 96;soul t needs 1;loaf stay*10+heat-970;");
+        // stay is 98 behind two of them, and 99 at most behind more
+        odds(w, 2, 13, 7, 10);
+        odds(w, 3, 21, 9, 10);
+        odds(w, 4, 21, 9, 10);
+        due.is("30: soul 1", w.odds(1, 2, 1, 1), 1);
         due.is("30: n 7", x.odds(0, 7, 1, 0), -1);
         due.is("30: n -1", x.odds(0, -1, 1, 0), -1);
         due.is("30: part 2", x.odds(0, 1, 1, 2), -1);
@@ -978,6 +1013,12 @@ public final class PromisesTest {
         due.is("40: none fits", x.course(0, 0), -1);
         due.is("40: what 2", x.course(2, 0), -1);
         due.is("40: what -1", x.course(-1, -1), -1);
+        OvenNames first = Due.village("deed a;deed b;loaf (heat=0)*a+(heat=1)*b;");
+        due.is("40: heat 0 counts", first.course(0, 0), 2);
+        due.is("40: heat 0 counts", first.course(1, 0), 0);
+        OvenNames last = Due.village("deed a;deed b;loaf (heat=9)*(a+b*2)+(heat<9)*a;");
+        due.is("40: heat 9 counts", last.course(0, 0), 1);
+        due.is("40: heat 9 counts", last.course(1, 0), 9);
         // what came tells which heat is next: by 3, a tells whether 5 or 8 tells b
         OvenNames y = Due.village("deed a;deed b;loaf (heat=3)*a+(heat=5)*(a and b)+(heat=8)*(b>a);");
         due.is("40: by what came", y.course(0, 0), 2);
