@@ -289,13 +289,19 @@ public final class PromisesTest {
         due.is("2: thirty ones", Due.village(ones + ";soul a needs 1;").soul(0, 5), 30);
         // nothing of a text with a FAULT goes into the next one
         OvenNames x = new OvenNames();
-        for (String bad : new String[] {"loaf (((((((1+2", "loaf not not not not not not not 1 or", "loaf 1 or 2<("}) {
+        for (String bad : new String[] {"loaf (((((((1+2", "loaf not not not not not not not 1 or", "loaf 1 or 2<(",
+            "loaf 1<"}) {
             Due.put(x, bad);
             due.is("4: village() of " + bad, x.village(), -1);
             Due.put(x, "soul a needs 1;loaf (((((((3)))))))*2 or not not not not not not not 0;");
             due.is("4: village() behind " + bad, x.village(), 1);
             due.is("4: loaf behind " + bad, x.soul(0, 5), 1);
             due.is("4: units behind " + bad, x.about(12), 10);
+            Due.put(x, bad);
+            due.is("4: village() of " + bad, x.village(), -1);
+            Due.put(x, "soul a needs 1;loaf 2<3;");
+            due.is("4: relation behind " + bad, x.village(), 1);
+            due.is("4: relation behind " + bad, x.soul(0, 5), 1);
             Due.put(x, "soul a needs 1;loaf 3);");
             due.is("4: bracket behind " + bad, x.village(), -1);
             due.is("5: bracket behind " + bad, x.fault(1), 21);
@@ -994,6 +1000,10 @@ public final class PromisesTest {
             due.is("39: wrong", x.ask(each[0], each[1], each[2], 0), -1);
         }
         due.is("39: 99", x.ask(99, 99, 1, 0), 2);
+        OvenNames hot = Due.village("deed a;loaf (heat=9)*a*(old=1)+(heat>9)*a;");
+        due.is("39: no heat above 9", hot.ask(0, 0, 1, 0), 2);
+        due.is("39: no heat above 9", hot.ask(0, 0, 0, 0), 0);
+        due.is("39: heat 9", hot.ask(0, 1, 0, 0), 9);
         x.report(0, 0, 0, 77);
         due.is("39: none fits", x.ask(0, 0, 0, 0), -1);
     }
@@ -1039,6 +1049,13 @@ public final class PromisesTest {
         ten.report(0, 0, 1, 1);
         due.is("40: of 11", ten.course(0, 1), -2);
         due.is("40: of 10, as known before", ten.course(0, 0), 1);
+        OvenNames five = Due.village("deed a;deed b;deed c;deed d;deed e;loaf (heat=1)*(a+b+c)+(heat=2)*(d+e*2);");
+        five.report(0, 0, 1, 0);
+        due.is("40: five deeds", five.course(0, 0), 1);
+        due.is("40: five deeds", five.course(1, 0), 2);
+        due.is("37: five deeds", five.sets(0), 1 | 1 << 8 | 1 << 16 | 1 << 24);
+        OvenNames hot = Due.village("deed a;loaf (heat>9)*a;");
+        due.is("40: no heat above 9", hot.course(0, 0), -1);
         // stay and old are 0
         OvenNames w = Due.village("deed a;deed b;loaf a+stay*b+old*b;");
         due.is("40: stay and old are 0", w.course(0, 0), -1);
