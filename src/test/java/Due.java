@@ -37,6 +37,10 @@ final class Due {
         return wrong;
     }
 
+    int checked() {
+        return checked;
+    }
+
     void finish() {
         System.out.println(what + ": " + checked + " answers, " + wrong + " not as due");
         if (wrong != 0) {

@@ -1,0 +1,16 @@
+import java.nio.file.Files;
+import java.nio.file.Path;
+
+/** Each sentence of the document that names a boundary case, with a test of its own. */
+public final class EdgesTest {
+    public static void main(String[] args) throws Exception {
+        Edges edges = new Edges(Files.readString(Path.of("../shared/DOC.md")));
+        TextEdges.addTo(edges);
+        ActEdges.addTo(edges);
+        SayingEdges.addTo(edges);
+        OutlookEdges.addTo(edges);
+        ReportEdges.addTo(edges);
+        KeepEdges.addTo(edges);
+        edges.finish();
+    }
+}
