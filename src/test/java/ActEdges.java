@@ -383,6 +383,7 @@ final class ActEdges {
         due.yes("redo", x.redo());
         due.is("the second, taken back last", x.soul(0, 1), 3);
         due.is("another can be", x.about(8), 1);
+        due.is("so many can be taken back", x.about(7), 2);
         // looking, keeping, reporting, a text with a FAULT are no ACTS
         x.richest();
         x.image(0);

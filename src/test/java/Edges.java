@@ -39,14 +39,8 @@ final class Edges {
     }
 
     private void stand(String where, int from, int to, String sentence, Edge edge) {
-        String section = from < 0 || to < 0 ? "" : doc.substring(from, to);
-        int at = section.indexOf(sentence);
-        if (at < 0 || section.indexOf(sentence, at + 1) >= 0) {
-            fail(where + " does not say just once: " + sentence);
-            return;
-        }
-        for (int i = 0; i < sentence.length(); i++) {
-            isCovered[from + at + i] = true;
+        if (!doc.isEmpty()) {
+            cover(where, from, to, sentence);
         }
         Due due = new Due(where + ", '" + sentence + "'");
         edge.look(due);
@@ -55,6 +49,18 @@ final class Edges {
         wrong += due.wrong();
         if (due.checked() == 0) {
             fail(where + ", '" + sentence + "': nothing was looked at");
+        }
+    }
+
+    private void cover(String where, int from, int to, String sentence) {
+        String section = from < 0 || to < 0 ? "" : doc.substring(from, to);
+        int at = section.indexOf(sentence);
+        if (at < 0 || section.indexOf(sentence, at + 1) >= 0) {
+            fail(where + " does not say just once: " + sentence);
+            return;
+        }
+        for (int i = 0; i < sentence.length(); i++) {
+            isCovered[from + at + i] = true;
         }
     }
 
@@ -78,7 +84,11 @@ final class Edges {
     }
 
     void finish() {
-        lookForGaps();
+        if (doc.isEmpty()) {
+            System.out.println("../shared/DOC.md can't be read: the quotes were not looked up");
+        } else {
+            lookForGaps();
+        }
         System.out.println("EdgesTest: " + edges + " sentences, " + checked + " answers, " + wrong + " not as due");
         if (wrong != 0) {
             System.exit(1);

@@ -4,7 +4,9 @@ import java.nio.file.Path;
 /** Each sentence of the document that names a boundary case, with a test of its own. */
 public final class EdgesTest {
     public static void main(String[] args) throws Exception {
-        Edges edges = new Edges(Files.readString(Path.of("../shared/DOC.md")));
+        Path doc = Path.of("../shared/DOC.md");
+        // without the document the tests still stand, only their quotes can't be looked up
+        Edges edges = new Edges(Files.isReadable(doc) ? Files.readString(doc) : "");
         TextEdges.addTo(edges);
         ActEdges.addTo(edges);
         SayingEdges.addTo(edges);

@@ -193,6 +193,20 @@ final class KeepEdges {
         OvenNames fresh = Due.village(Sight.VILLAGE);
         fresh.later(Sight.TIME);
         Sight.alike(due, "told again", x, fresh);
+        // the first ACT is taken back to what was told
+        OvenNames w = Sight.rich();
+        w.end(0);
+        Due.put(w, Sight.VILLAGE);
+        w.village();
+        w.bread();
+        w.undo();
+        due.is("week", w.about(5), 0);
+        due.is("SEED", w.about(4), 9);
+        due.is("heat", w.about(3), 2);
+        due.is("FEUDS", w.about(2), 1);
+        due.is("stay", w.soul(1, 3), 3);
+        due.is("old", w.soul(1, 4), 0);
+        due.is("says", w.soul(1, 2), -1);
         OvenNames y = Sight.rich();
         y.end(0);
         due.is("village() of nothing", y.village(), 0);
@@ -233,6 +247,26 @@ final class KeepEdges {
         due.is("makes", y.makes(1, 88), 0);
         due.is("back(0)", y.back(0), 1);
         due.is("back(1)", y.back(1), -1);
+        // nor does it go into the next text
+        for (String bad : new String[] {"loaf (((((((1+2", "loaf not not not not not not not 1 or", "loaf 1 or 2<(",
+            "loaf 1<", "loaf 1;heat 1;draw 1;deed a;soul a needs 1 stays 2;x"}) {
+            OvenNames z = new OvenNames();
+            String[] next = {"soul a needs 1;loaf (((((((3)))))))*2 or not not not not not not not 0;", "soul a needs 1;loaf 2<3;"};
+            for (String text : next) {
+                Due.put(z, bad);
+                due.is("village() of " + bad, z.village(), -1);
+                Due.put(z, text);
+                due.is("village() behind " + bad, z.village(), 1);
+                due.is("LOAF behind " + bad, z.soul(0, 5), 1);
+                due.is("stay behind " + bad, z.soul(0, 3), 0);
+                due.is("heat behind " + bad, z.about(3), 0);
+            }
+            Due.put(z, bad);
+            z.village();
+            Due.put(z, "loaf 1);");
+            due.is("a bracket behind " + bad, z.village(), -1);
+            due.is("a bracket behind " + bad, z.fault(1), 6);
+        }
     }
 
     private static void faultOrNone(Due due) {
@@ -343,6 +377,13 @@ final class KeepEdges {
         due.is("an ACT behind it", x.about(7), 1);
         due.yes("undo", x.undo());
         due.no("no more", x.undo());
+        due.is("taken back to the image: DEEDS", x.soul(0, 1), 0);
+        due.is("taken back to the image: week", x.about(5), 1);
+        due.is("taken back to the image: SEED", x.about(4), 304);
+        due.is("taken back to the image: FEUDS", x.about(2), 1);
+        due.is("taken back to the image: says", x.soul(0, 2), -1);
+        due.is("taken back to the image: SHAMED", x.soul(0, 8), 1);
+        due.is("taken back to the image: old", x.soul(1, 4), 9);
         due.is("the BOX is what it was", x.back(0), 1);
         due.is("DEEDS", x.soul(0, 1), 0);
     }

@@ -95,6 +95,12 @@ final class OutlookEdges {
         due.is("so it comes", x.soul(0, 5), 27);
         x.bread();
         due.is("so it comes", x.soul(0, 5), 28);
+        // the heats come by the SEED: 3, then 482, 105, 456
+        OvenNames y = Due.village("soul s needs 1;loaf heat;heat 7;draw 3;");
+        int[] heats = {7, 2, 5, 6};
+        for (int n = 0; n < heats.length; n++) {
+            due.is("heat", y.will(0, n), heats[n]);
+        }
     }
 
     private static void oddsOfHeats(Due due) {
@@ -123,6 +129,18 @@ final class OutlookEdges {
         w.says(0, 0);
         due.is("25 for sure", w.odds(0, 1, 25, 1), 1);
         due.is("26 by a half", w.odds(0, 1, 26, 1), 2);
+        // a week more is stayed behind each
+        OvenNames v = Due.village("soul s needs 1;loaf stay;");
+        for (int n = 0; n <= 6; n++) {
+            due.is("so many weeks", v.odds(0, n, n, 0), 1);
+            due.is("not more", v.odds(0, n, n + 1, 0), 0);
+        }
+        // LOAVES of 0 and of 99 count
+        OvenNames u = Due.village("soul s needs 1;loaf (heat<5)*99;heat 9;");
+        due.is("0 now", u.odds(0, 0, 1, 0), 0);
+        due.is("99 behind one", u.odds(0, 1, 99, 1), 2);
+        due.is("99 behind six", u.odds(0, 6, 99, 1), 2);
+        due.is("99 for sure", Due.village("soul s needs 1;loaf 99;").odds(0, 6, 99, 0), 1);
     }
 
     private static void soonestFewest(Due due) {

@@ -184,6 +184,11 @@ final class ReportEdges {
         due.is("by stay and old", w.ask(99, 99, 0, 0), 5);
         due.is("by another old", w.ask(99, 98, 0, 0), 0);
         due.is("by another stay", w.ask(98, 99, 1, 0), 2);
+        due.is("no heat above 9", Due.village("deed a;loaf (heat>9)*a;").ask(0, 0, 1, 0), 2);
+        due.is("0 say a NAME", Due.village("deed a;loaf a*(said=0);").ask(0, 0, 1, 0), 1);
+        due.is("0 say a NAME", Due.village("deed a;loaf a*(said=1);").ask(0, 0, 1, 0), 2);
+        due.is("LOAVES of 0 and of 99", Due.village("deed a;loaf a*99;").ask(0, 0, 1, 0), 1);
+        due.is("all of 99", Due.village("deed a;loaf 99;").ask(0, 0, 1, 0), 2);
     }
 
     /** Heat h tells only whether the set is h: of n sets n - 1 LOAVES are due. */

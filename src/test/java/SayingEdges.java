@@ -88,6 +88,33 @@ final class SayingEdges {
         OvenNames z = Due.village("soul a needs 1;soul b needs 1;feud a with b;");
         due.is("one of two foes", z.richest(), 10);
         due.lie("SOUL 0 says none", z, -1, 0);
+        whateverIsSaid(due, "soul a needs 3 stays 6;soul b needs 2 stays 4;soul c needs 1 stays 1;feud a with c;loaf stay+said;");
+        whateverIsSaid(due, "soul a needs 1;soul b needs 1;soul c needs 1;loaf 6*(said=1);");
+    }
+
+    /** What is said now counts for none of the SAYINGS that are looked for. */
+    private static void whateverIsSaid(Due due, String village) {
+        OvenNames still = Due.village(village);
+        for (int way = 1; way < 64; way++) {
+            OvenNames x = Due.village(village);
+            for (int soul = 0; soul < 3; soul++) {
+                x.says(soul, (way >> soul * 2 & 3) - 1);
+            }
+            for (int set = 0; set < 8; set++) {
+                due.is("feeds(" + set + ")", x.feeds(set), still.feeds(set));
+                lieAlike(due, "feeds(" + set + ")", x, still);
+            }
+            due.is("richest()", x.richest(), still.richest());
+            lieAlike(due, "richest()", x, still);
+            due.is("steady()", x.steady(), still.steady());
+            lieAlike(due, "steady()", x, still);
+        }
+    }
+
+    private static void lieAlike(Due due, String call, OvenNames one, OvenNames other) {
+        for (int i = 0; i < 4; i++) {
+            due.is(call + " lies(" + i + ")", one.lies(i), other.lies(i));
+        }
     }
 
     private static void feedLeastShame(Due due) {
@@ -254,6 +281,13 @@ final class SayingEdges {
         due.is("all have a FEUD", x.pairs(), 0);
         due.lie("none", x, -1, -1, -1);
         due.is("one SOUL", Due.village("soul a needs 1;").pairs(), 0);
+        // by FEUDS alone it is told who is left for whom
+        OvenNames y = Due.village("soul a needs 1;soul b needs 1;soul c needs 1;soul d needs 1;feud a with b;feud c with d;");
+        due.is("two twos", y.pairs(), 20);
+        due.lie("a and c, b and d", y, 2, 3, 0, 1);
+        y.feud(0, 2);
+        due.is("two twos", y.pairs(), 20);
+        due.lie("a and d, b and c", y, 3, 2, 1, 0);
     }
 
     private static void pairsFirst(Due due) {

@@ -84,7 +84,7 @@ final class Sight {
         }
     }
 
-    /** Some 450 calls; the object is another one behind them. */
+    /** Some hundreds of calls; the object is not what it was behind them. */
     static List<Integer> all(OvenNames x) {
         Sight sight = new Sight(x);
         sight.lookAtAll();

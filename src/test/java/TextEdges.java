@@ -130,6 +130,12 @@ final class TextEdges {
         fault(due, "loaf 0<not 1;", 2, 7);
         fault(due, "loaf 0+not 1;", 2, 7);
         fault(due, "loaf 0*not 1;", 2, 7);
+        // and binds tighter than or, not tighter than and, a relation tighter than not
+        loaf(due, "1 or 0 and 0", 1);
+        loaf(due, "0 and 0 or 1", 1);
+        loaf(due, "not 0 and 0", 0);
+        loaf(due, "not 1 or 1", 1);
+        loaf(due, "not 1=2", 1);
         loaf(due, "0<(not 0)", 1);
     }
 
@@ -144,6 +150,15 @@ final class TextEdges {
         loaf(due, "60/5/3", 4);
         loaf(due, "60/5*3", 36);
         loaf(due, "2+3*4", 14);
+        loaf(due, "20-3*4", 8);
+        loaf(due, "50+60/7%5", 53);
+        loaf(due, "60%7*5", 20);
+        loaf(due, "60%9/4", 1);
+        loaf(due, "5*7%4", 3);
+        loaf(due, "5*7/4", 8);
+        loaf(due, "60%50%7", 3);
+        loaf(due, "9+3-2", 10);
+        loaf(due, "9-3+2", 8);
         for (String sign : new String[] {"+", "-", "*", "/", "%"}) {
             fault(due, "loaf " + sign + "1;", 2, 5);
             fault(due, "loaf 1" + sign + ";", 2, 7);
@@ -316,6 +331,9 @@ final class TextEdges {
         String nine = TEN_FEUDS.substring(0, TEN_FEUDS.length() - 14);
         due.is("9 FEUDS", good(due, FIVE_SOULS + nine, 5).about(2), 9);
         fault(due, FIVE_SOULS + nine + "feud a with b;", 3, (FIVE_SOULS + nine).length() + 12);
+        // as many in the next text
+        Due.put(x, FIVE_SOULS + TEN_FEUDS);
+        due.is("10 FEUDS told anew", x.village(), 5);
     }
 
     private static void feudsOfWhom(Due due) {
