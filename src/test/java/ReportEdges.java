@@ -212,6 +212,22 @@ final class ReportEdges {
         // chosen by what came: a tells by which heat b is seen
         OvenNames z = Due.village("deed a;deed b;loaf (heat=3)*a+(heat=5)*(a and b)+(heat=8)*(b>a);");
         due.is("two", z.course(0, 0), 2);
+        // of 32 sets those few that FIT: the first and the last among them
+        OvenNames w = Due.village("deed a;deed b;deed c;deed d;deed e;loaf (heat=1)*((a+b+c+d+e)%5)+(heat=2)*e;");
+        w.report(0, 0, 1, 0);
+        due.is("none and all", w.sets(0), 1 | 1 << 31);
+        due.is("one", w.course(0, 0), 1);
+        due.is("by the last DEED", w.course(1, 0), 2);
+        // what is known by other REPORTS does not count for these
+        OvenNames v = Due.village("deed a;deed b;deed c;loaf (heat=1)*(a+b)+(heat=2)*a+(heat=3)*(b+c*2);");
+        due.is("all", v.course(0, 0), 2);
+        v.report(0, 0, 1, 1);
+        due.is("a or b", v.course(0, 0), 1);
+        due.is("a or b, and c", v.course(1, 0), 3);
+        v.untell(0);
+        v.report(0, 0, 1, 2);
+        due.is("a and b", v.course(0, 0), 1);
+        due.is("all, as known before", v.course(0, -1), 2);
         // neither stay nor old
         due.is("stay 0", Due.village("deed a;loaf a*stay;").course(0, 0), -1);
         due.is("old 0", Due.village("deed a;loaf a*old;").course(0, 0), -1);
